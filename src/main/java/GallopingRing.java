@@ -362,11 +362,11 @@ public final class GallopingRing {
     }
 
     private static boolean isPlace(int p) {
-        return isWithin(p, 0, PLACES - 1);
+        return p >= 0 && p < PLACES;
     }
 
     private static boolean isLeg(int leg) {
-        return isWithin(leg, 0, LEGS_EACH - 1);
+        return leg >= 0 && leg < LEGS_EACH;
     }
 
     private static int legNumber(int p, int leg) {
@@ -448,6 +448,7 @@ public final class GallopingRing {
             loadInAll += weight;
         }
 
+        // Modulo 4 the even PLACES are at 0 and 2, the odd ones at 1 and 3.
         private static int liftOf(int p, int weight) {
             return p % 2 == 0 ? weight : -weight;
         }
@@ -701,7 +702,7 @@ public final class GallopingRing {
         private final int[] followers = new int[MOST_FAIRS];
 
         private boolean isFair(int f) {
-            return isWithin(f, 0, number - 1);
+            return f >= 0 && f < number;
         }
 
         private int announce(int from, int to, int gain) {

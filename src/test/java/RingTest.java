@@ -307,6 +307,15 @@ public final class RingTest {
         c.due("group(2, 50, 50, 0)", x.group(2, 50, 50, 0), 0);
         c.due("rider(0)", x.rider(0), 50);
         c.due("rider(6)", x.rider(6), 50);
+        c.due("group(1, 30, 0, 0): it shakes more than the last", x.group(1, 30, 0, 0), 300 * 300);
+        c.due("rider(3)", x.rider(3), 30);
+        GallopingRing slant = new GallopingRing();
+        for (int p : new int[] {1, 5, 7, 11}) {
+            slant.horse(p, 50, 0);
+        }
+        slant.sit(1, 40);
+        c.due("group(1, 40, 0, 0) right against it", slant.group(1, 40, 0, 0), 0);
+        c.due("rider(7)", slant.rider(7), 40);
         GallopingRing y = cross(100);
         c.due("group(3, 40, 10, 40)", y.group(3, 40, 10, 40), 100 * 100);
         c.due("rider(0) is the first", y.rider(0), 40);
