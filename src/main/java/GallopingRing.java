@@ -62,7 +62,6 @@ public final class GallopingRing {
             return STATE;
         }
         coats.clear(p);
-        legs.clear(p);
         return ring.takeHorse(p);
     }
 
@@ -123,10 +122,10 @@ public final class GallopingRing {
         if (groupsDone >= MOST_GROUPS) {
             return STATE;
         }
+        groupsDone++; // NONE is no refusal: such a GROUP was done too
         if (ring.freeHorses() < n) {
             return NONE;
         }
-        groupsDone++;
         seating.choose(ring, n, a, b, c);
         seating.seatAll(ring);
         return ring.shakeNow();
@@ -610,8 +609,8 @@ public final class GallopingRing {
     }
 
     /**
-     * The MARK of each LEG, by 4 PLACE and LEG. A PLACE without a HORSE keeps MARKS of its own, so that a HORSE
-     * that comes finds LEGS of its own, and the MARKS are always the numbers 0 to 47 in some order.
+     * The MARK of each LEG, by 4 PLACE and LEG. A PLACE without a HORSE has MARKS of its own (no HORSE leaves
+     * without them), so that a HORSE that comes finds its LEGS, and the MARKS are 0 to 47 in some order.
      */
     private static final class Legs {
         private static final int WALKED = -1;
@@ -625,20 +624,14 @@ public final class GallopingRing {
             }
         }
 
-        // LEGS that only changed about on one HORSE are its own still.
+        // A MARK tells HORSE and LEG: LEGS that changed about on one HORSE are not its own either.
         private boolean areOwn(int p) {
             for (int leg = 0; leg < LEGS_EACH; leg++) {
-                if (marks[legNumber(p, leg)] / LEGS_EACH != p) {
+                if (marks[legNumber(p, leg)] != legNumber(p, leg)) {
                     return false;
                 }
             }
             return true;
-        }
-
-        private void clear(int p) {
-            for (int leg = 0; leg < LEGS_EACH; leg++) {
-                marks[legNumber(p, leg)] = legNumber(p, leg);
-            }
         }
 
         private void exchange(int at, int other) {

@@ -44,7 +44,7 @@ public final class Model {
         Horse horse = horses.get(p);
         if (horse == null) return UNKNOWN;
         if (horse.rider > 0) return STATE;
-        for (int mark : horse.legs) if (!in(mark, 4 * p, 4 * p + 3)) return STATE;
+        for (int leg = 0; leg < 4; leg++) if (horse.legs[leg] != 4 * p + leg) return STATE;
         horses.remove(p);
         return horse.weight;
     }
@@ -118,6 +118,7 @@ public final class Model {
         if (!in(n, 1, 3)) return OUTSIDE;
         for (int i = 0; i < n; i++) if (!in(weights[i], 1, 150)) return OUTSIDE;
         if (groups == 60) return STATE;
+        groups++;
         int least = Integer.MAX_VALUE;
         int[] found = null;
         int ways = n == 1 ? 12 : n == 2 ? 144 : 1728;
@@ -132,7 +133,6 @@ public final class Model {
             for (int p : places) horses.get(p).rider = 0;
         }
         if (found == null) return NONE;
-        groups++;
         seat(found, weights);
         return shake();
     }

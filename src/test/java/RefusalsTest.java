@@ -74,6 +74,7 @@ public final class RefusalsTest {
         refused("leave(1): a rider", STATE, x -> x.leave(1));
         refused("leave(2): a leg", STATE, x -> x.leave(2));
         refused("leave(3): a leg", STATE, x -> x.leave(3));
+        refused("leave(4): its own legs changed about", STATE, x -> x.leave(4));
         refused("sit(1, 5)", STATE, x -> x.sit(1, 5));
         refused("sit(0, 0)", OUTSIDE, x -> x.sit(0, 0));
         refused("sit(0, 151)", OUTSIDE, x -> x.sit(0, 151));

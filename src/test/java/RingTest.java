@@ -96,7 +96,16 @@ public final class RingTest {
         c.due("leave(7): a leg of another", x.leave(7), STATE);
         x.swap(4, 3, 7, 0);
         x.swap(4, 0, 4, 1);
-        c.due("leave(4): legs changed about, all its own", x.leave(4), 77);
+        c.due("leave(4): its legs changed about", x.leave(4), STATE);
+        c.due("horses stay as they were", x.count(0), 2);
+        x.swap(4, 1, 4, 2);
+        c.due("leave(4): three legs changed about", x.leave(4), STATE);
+        x.swap(4, 1, 4, 2);
+        x.swap(4, 0, 4, 1);
+        x.swap(4, 2, 4, 3);
+        c.due("leave(4): its last legs changed about", x.leave(4), STATE);
+        x.swap(4, 3, 4, 2);
+        c.due("leave(4): all legs are back", x.leave(4), 77);
         c.due("swaps() without them", x.swaps(), 0);
         c.due("find(4, 0) without them", x.find(4, 0), NONE);
         c.due("count(0)", x.count(0), 1);
@@ -299,7 +308,7 @@ public final class RingTest {
         c.due("count(1)", x.count(1), 3);
         c.due("group(2, 1, 1, 1): one horse is free", x.group(2, 1, 1, 1), NONE);
         c.due("nobody was seated", x.count(1), 3);
-        c.due("count(7)", x.count(7), 2);
+        c.due("count(7): none was done too", x.count(7), 3);
     }
 
     private static void promise11GroupTies() {
@@ -329,6 +338,7 @@ public final class RingTest {
         c.due("group(1, 9, 0, 0) on a full ring", z.group(1, 9, 0, 0), NONE);
         GallopingRing none = new GallopingRing();
         c.due("group(1, 9, 0, 0) without horses", none.group(1, 9, 0, 0), NONE);
+        c.due("count(7): it was done", none.count(7), 1);
     }
 
     private static void promise11GroupLimit() {
@@ -345,6 +355,12 @@ public final class RingTest {
         }
         c.due("group(1, 10, 0, 0) on a full ring: refused", x.group(1, 10, 0, 0), STATE);
         c.due("count(7) stays", x.count(7), 60);
+        GallopingRing empty = new GallopingRing();
+        for (int i = 0; i < 60; i++) {
+            c.due("group(2, 1, 1, 0) without horses", empty.group(2, 1, 1, 0), NONE);
+        }
+        c.due("group(2, 1, 1, 0) a 61st time", empty.group(2, 1, 1, 0), STATE);
+        c.due("count(7) of an empty ring", empty.count(7), 60);
     }
 
     private static void promise12Rider() {

@@ -10,6 +10,7 @@ public final class ToldTest {
         promise30Count();
         promise31DigestOfNew();
         promise31DigestOfAll();
+        promise31DigestCountsGroupsOfNone();
         promise31DigestOnlyTells();
         c.finish();
     }
@@ -92,6 +93,16 @@ public final class ToldTest {
         add(numbers, 77, 1, 4, 1);
         add(numbers, 61, 62, 63, 64);
         c.due("digest() of a busy object", busy().digest(), digestOf(numbers));
+    }
+
+    private static void promise31DigestCountsGroupsOfNone() {
+        GallopingRing x = new GallopingRing();
+        x.group(1, 1, 0, 0);
+        x.group(4, 1, 1, 1);
+        x.group(3, 1, 1, 1);
+        List<Integer> numbers = new ArrayList<>();
+        add(numbers, 0, 0, 0, 0, 0, 0, 0, 0, 0, 0, 0, 0, 3000, 5000, 100, 0, 0, 2);
+        c.due("digest() behind two groups of none and a refused one", x.digest(), digestOf(numbers));
     }
 
     private static void promise31DigestOnlyTells() {
