@@ -100,13 +100,15 @@ public final class EdgesOfRingTest {
         cross.then("leave 0").keeps("leave 0", UNKNOWN);
         cross.then("sit 0 1").keeps("leave 0", STATE).answers("leave 3", 100).then("rise 0").answers("leave 0", 100);
         cross.then("sit 0 1", "turn").answers("leave 0", 100);
+        Given painted = cross.then("coat 0 50", "coat 0 51", "coat 9 52", "coat 6 53");
+        painted.then("sit 0 1").keeps("leave 0", STATE);
         for (int leg = 0; leg < 4; leg++) {
-            Given swapped = cross.then("swap 0 " + leg + " 9 " + (3 - leg));
+            Given swapped = painted.then("swap 0 " + leg + " 9 " + (3 - leg));
             swapped.keeps("leave 0", STATE).keeps("leave 9", STATE).answers("leave 3", 100);
             swapped.then("sit 0 1").keeps("leave 0", STATE);
             swapped.then("swap 9 " + (3 - leg) + " 0 " + leg).answers("leave 0", 100).answers("leave 9", 100);
             for (int other = 0; other < leg; other++) {
-                Given about = cross.then("swap 6 " + leg + " 6 " + other);
+                Given about = painted.then("swap 6 " + leg + " 6 " + other);
                 about.keeps("leave 6", STATE).then("swap 6 " + leg + " 6 " + other).answers("leave 6", 100);
             }
         }
@@ -230,6 +232,11 @@ public final class EdgesOfRingTest {
         // The ring may not turn now, but with the RIDER.
         Given slant = none.then("horse 0 50 0", "horse 3 9 0", "horse 6 30 0", "horse 9 9 0", "law 0 0");
         slant.keeps("best 20", 6).keeps("best 19", NONE).keeps("best 21", NONE);
+        // A LIFT of 0: only where it makes RISING 0, and of these where it shakes least.
+        Given sinking = cross.then("sit 3 30", "sit 6 10", "law 1 0");
+        sinking.keeps("best 20", 0).keeps("best 19", NONE).keeps("best 21", NONE);
+        Given choice = none.then("horse 0 40 0", "horse 3 90 0", "horse 6 30 0", "law 1 0");
+        choice.keeps("best 20", 6).keeps("best 19", NONE).keeps("best 21", NONE);
     }
 
     private static void promise10Refusals() {

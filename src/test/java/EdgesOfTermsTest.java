@@ -271,6 +271,11 @@ public final class EdgesOfTermsTest {
         Given three = none.then("horse 0 1 0", "horse 3 1 0", "horse 9 1 0", "law 1 0");
         three.answers("group 2 50 50 0", 100);
         three.then("group 2 50 50 0").answers("rider 3", 50).answers("rider 9", 50).answers("rising", -101);
+        // Places whose numbers are neither alike nor 0: right against the RIDER, not at its mirror image.
+        Given slant = none.then("horse 1 9 0", "horse 5 9 0", "horse 7 9 0", "horse 11 9 0", "sit 1 40");
+        slant.answers("group 1 40 0 0", 0).then("group 1 40 0 0").answers("rider 7", 40);
+        Given other = none.then("horse 2 9 0", "horse 4 9 0", "horse 8 9 0", "horse 10 9 0", "sit 4 40");
+        other.answers("group 1 40 0 0", 0).then("group 1 40 0 0").answers("rider 10", 40);
     }
 
     private static void waysOfGroup() {

