@@ -50,6 +50,7 @@ public final class EdgesOfTermsTest {
         turnTakesATenth();
         turnLetsNobodyIn();
         bookAgrees();
+        firstAsTold();
         c.finish();
     }
 
@@ -565,5 +566,25 @@ public final class EdgesOfTermsTest {
         three.then("book 1").answers("book 0", 0);
         three.then("book 3", "sit 3 5", "turn").answers("book 1", 0).answers("book 4", -3);
         three.then("look").answers("book 3", 0);
+    }
+
+    private static void firstAsTold() {
+        c.sentence("Refusals, of several the first as told by each call");
+        // UNKNOWN ahead of OUTSIDE, ahead of STATE or FULL, and all of them ahead of NONE.
+        Given run = none.then("horse 0 100 0", "sit 0 5").times(7, "coat 0 1").times(8, "fair 1 2 3").times(100, "come 5");
+        run.keeps("horse 12 0 100", UNKNOWN).keeps("horse 0 0 0", OUTSIDE).keeps("horse 0 1 100", OUTSIDE);
+        run.keeps("horse 0 1 0", STATE);
+        run.keeps("sit 1 0", UNKNOWN).keeps("sit 0 0", OUTSIDE).keeps("sit 0 151", OUTSIDE).keeps("sit 0 1", STATE);
+        run.keeps("law 2 -1", UNKNOWN).keeps("best 0", OUTSIDE).keeps("best 151", OUTSIDE).keeps("best 1", NONE);
+        run.keeps("coat 1 100", UNKNOWN).keeps("coat 0 100", OUTSIDE).keeps("coat 0 99", FULL);
+        run.keeps("sample 1 8", UNKNOWN).keeps("strip 1 7", UNKNOWN).keeps("strip 0 7", OUTSIDE);
+        run.keeps("swap 0 4 0 4", UNKNOWN).keeps("swap 1 0 1 0", UNKNOWN).keeps("swap 0 0 0 0", OUTSIDE);
+        run.keeps("find 1 4", UNKNOWN).keeps("find 1 3", NONE);
+        run.keeps("fair 2 1 3", OUTSIDE).keeps("fair 1 2 3", FULL);
+        run.keeps("road 8 8 51", UNKNOWN).keeps("road 7 7 51", OUTSIDE).keeps("road 7 7 5", OUTSIDE);
+        run.keeps("come 0", OUTSIDE).keeps("come 151", OUTSIDE).keeps("come 150", FULL);
+        Given often = none.times(60, "group 1 1 0 0");
+        often.keeps("group 0 1 1 1", OUTSIDE).keeps("group 1 151 0 0", OUTSIDE).keeps("group 1 1 0 0", STATE);
+        none.keeps("group 0 1 1 1", OUTSIDE).answers("group 1 1 0 0", NONE);
     }
 }

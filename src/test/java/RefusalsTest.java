@@ -9,6 +9,7 @@ public final class RefusalsTest {
     }
 
     public static void main(String[] args) {
+        c.sentence("they change nothing");
         ring();
         groups();
         coatsAndLegs();
