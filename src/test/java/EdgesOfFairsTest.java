@@ -14,7 +14,7 @@ public final class EdgesOfFairsTest {
         promise22NoFairs();
         promise23();
         promise23None();
-        promise23Eight();
+        oneBehindTheOther();
         c.finish();
     }
 
@@ -124,7 +124,7 @@ public final class EdgesOfFairsTest {
         none.times(8, "fair 0 400 5").keeps("round 0", 0).keeps("round 1", NONE).keeps("round 7", NONE);
     }
 
-    private static void promise23Eight() {
+    private static void oneBehindTheOther() {
         c.sentence("FAIRS one behind the other");
         Given all = eight();
         Given backwards = none;

@@ -12,7 +12,9 @@ public final class EdgesOfTermsTest {
     public static void main(String[] args) {
         places();
         noPlaces();
+        twoNumbersEach();
         numbersOfPlaces();
+        placeOrNone();
         horseWeighs();
         riderWeighs();
         shake();
@@ -29,6 +31,7 @@ public final class EdgesOfTermsTest {
         colours();
         legs();
         marks();
+        swapping();
         fewestSwaps();
         sampleFromAbove();
         fairsAtMost();
@@ -38,7 +41,8 @@ public final class EdgesOfTermsTest {
         roadDays();
         roadAtFirst();
         roadBothWays();
-        beginsBehind();
+        beginsBehindTheEnd();
+        beginsBehindTheRoad();
         bestRoundOfNone();
         bestRoundEarnsMost();
         bestRoundFewestFairs();
@@ -48,6 +52,8 @@ public final class EdgesOfTermsTest {
         runningBeyond();
         turnTakesAll();
         turnTakesATenth();
+        turnTakesTokens();
+        childrenCome();
         turnLetsNobodyIn();
         bookAgrees();
         firstAsTold();
@@ -101,16 +107,33 @@ public final class EdgesOfTermsTest {
         }
     }
 
+    private static void twoNumbersEach() {
+        c.sentence("with two numbers each, in order");
+        for (int p = 0; p < 12; p++) {
+            none.then("horse " + p + " 1 0").answers("shake", ACROSS[p] * ACROSS[p] + ALONG[p] * ALONG[p]);
+        }
+    }
+
     private static void numbersOfPlaces() {
         c.sentence("(10, 0), (9, 5), (5, 9), (0, 10), (-5, 9), (-9, 5), (-10, 0), (-9, -5), (-5, -9), (0, -10), (5, -9), (9, -5)");
         for (int p = 0; p < 12; p++) {
             Given one = none.then("horse " + p + " 1 0");
-            one.answers("shake", ACROSS[p] * ACROSS[p] + ALONG[p] * ALONG[p]);
             // A second LOAD at (10, 0), or at (0, 10), tells each number with its sign.
             int across = p == 0 ? 30 : ACROSS[p] + 20;
             one.then(p == 0 ? "sit 0 2" : "horse 0 2 0").answers("shake", across * across + ALONG[p] * ALONG[p]);
             int along = p == 3 ? 30 : ALONG[p] + 20;
             one.then(p == 3 ? "sit 3 2" : "horse 3 2 0").answers("shake", ACROSS[p] * ACROSS[p] + along * along);
+        }
+    }
+
+    private static void placeOrNone() {
+        c.sentence("A HORSE stands at a PLACE or none");
+        Given all = twelve();
+        for (int p = 0; p < 12; p++) {
+            none.answers("leave " + p, UNKNOWN).then("horse " + p + " 50 5").answers("leave " + p, 50);
+            none.then("horse " + p + " 50 5").answers("count 0", 1).keeps("horse " + p + " 60 6", STATE);
+            Given left = all.then("leave " + p);
+            left.answers("count 0", 11).answers("mark " + p + " 0", UNKNOWN).answers("horse " + p + " 60 6", 12);
         }
     }
 
@@ -146,7 +169,8 @@ public final class EdgesOfTermsTest {
     }
 
     private static void shake() {
-        c.sentence("the sum of squares of both sums of LOADS times the PLACES' numbers");
+        c.sentence("SHAKE of a set of LOADS (what HORSES and RIDERS WEIGH): the sum of squares of both sums of LOADS"
+            + " times the PLACES' numbers");
         none.answers("shake", 0);
         twelve().answers("shake", 0);
         Given half = none.then("law 0 30000");
@@ -158,6 +182,9 @@ public final class EdgesOfTermsTest {
             half = half.then("sit " + p + " 150");
         }
         half.answers("shake", 3500 * 3500 + 13300 * 13300);
+        // A RIDER is a LOAD as a HORSE is; who waits is none.
+        none.then("horse 0 15 0").answers("shake", 150 * 150);
+        none.then("horse 0 10 0", "sit 0 5").answers("shake", 150 * 150).then("come 150").answers("shake", 150 * 150);
     }
 
     private static void shakeAtMostShakingSquared() {
@@ -175,7 +202,8 @@ public final class EdgesOfTermsTest {
     }
 
     private static void risingAtMostLift() {
-        c.sentence("with PLACES modulo 4, LOADS at 0 and 2 less those at 1 and 3, without its sign, is at most LIFT");
+        c.sentence("and RISING: with PLACES modulo 4, LOADS at 0 and 2 less those at 1 and 3, without its sign,"
+            + " is at most LIFT");
         for (int p = 0; p < 12; p++) {
             Given one = none.then("horse " + p + " 7 0");
             one.answers("rising", p % 4 == 0 || p % 4 == 2 ? 7 : -7);
@@ -322,7 +350,7 @@ public final class EdgesOfTermsTest {
     }
 
     private static void legs() {
-        c.sentence("LEGS 0 to 3");
+        c.sentence("and LEGS 0 to 3");
         Given all = twelve();
         for (int leg : NO_LEGS) {
             for (int p : new int[] {0, 5, 11}) {
@@ -341,15 +369,31 @@ public final class EdgesOfTermsTest {
     }
 
     private static void marks() {
-        c.sentence("the HORSE (PLACE) and LEG it was carved for, 4 PLACE and LEG; at first its own");
+        c.sentence("each with a MARK: the HORSE (PLACE) and LEG it was carved for, 4 PLACE and LEG; at first its own");
         Given all = twelve();
         for (int at = 0; at < 48; at++) {
             all.answers("mark " + at / 4 + " " + at % 4, at);
         }
     }
 
+    private static void swapping() {
+        c.sentence("SWAPPING exchanges two LEGS of HORSES");
+        // The MARK goes with its LEG; all other LEGS, and all that is no LEG, stay where they were.
+        Given before = twelve().then("coat 2 50", "sit 2 40", "sit 8 40");
+        Given swapped = before.then("swap 2 1 8 3");
+        for (int at = 0; at < 48; at++) {
+            int mark = at == 9 ? 35 : at == 35 ? 9 : at;
+            swapped.answers("mark " + at / 4 + " " + at % 4, mark).answers("find " + at / 4 + " " + at % 4, mark);
+        }
+        swapped.answers("sample 2 0", 50).answers("sample 8 0", 8).answers("rider 2", 40).answers("rider 8", 40);
+        swapped.answers("shake", 0).answers("count 6", 1280).answers("count 0", 12);
+        // Once more, they are back; with a third LEG, each moves on.
+        swapped.then("swap 8 3 2 1").answers("mark 2 1", 9).answers("mark 8 3", 35);
+        swapped.then("swap 2 1 0 0").answers("mark 2 1", 0).answers("mark 0 0", 35).answers("mark 8 3", 9);
+    }
+
     private static void fewestSwaps() {
-        c.sentence("with how few all LEGS of all HORSES are where they were carved for");
+        c.sentence("THE FEWEST SWAPS: with how few all LEGS of all HORSES are where they were carved for");
         none.answers("swaps", 0);
         Given all = twelve();
         all.answers("swaps", 0);
@@ -366,7 +410,7 @@ public final class EdgesOfTermsTest {
     }
 
     private static void sampleFromAbove() {
-        c.sentence("the colour of its k-th COAT from above (k 0 the uppermost)");
+        c.sentence("A SAMPLE at depth k of a HORSE: the colour of its k-th COAT from above (k 0 the uppermost)");
         Given one = none.then("horse 4 50 30");
         one.answers("sample 4 0", 30).keeps("sample 4 1", NONE).keeps("sample 4 -1", NONE);
         Given three = one.then("coat 4 31", "coat 4 32");
@@ -424,7 +468,7 @@ public final class EdgesOfTermsTest {
     }
 
     private static void roadAtFirst() {
-        c.sentence("0 at first");
+        c.sentence("take 0 to 50 days (0 at first");
         Given run = none.times(8, "fair 1 2 3");
         for (int a = 0; a < 8; a++) {
             for (int b = 0; b < 8; b++) {
@@ -446,8 +490,20 @@ public final class EdgesOfTermsTest {
         earlier.then("road 0 1 4").answers("earns", 7).then("road 1 0 3").answers("earns", 12);
     }
 
-    private static void beginsBehind() {
-        c.sentence("the day behind the end is the first day on the road, or there");
+    private static void beginsBehindTheEnd() {
+        c.sentence("A ROUND: FAIRS one behind the other, each beginning behind the end of the one ahead");
+        // One within the other, one over the other's end, both on the same days: never both.
+        none.then("fair 0 9 2", "fair 3 5 3").answers("earns", 3).answers("round 0", 1).answers("round 1", NONE);
+        none.then("fair 0 5 2", "fair 4 9 3").answers("earns", 3).answers("round 0", 1).answers("round 1", NONE);
+        none.then("fair 3 5 2", "fair 3 5 3").answers("earns", 3).answers("round 0", 1).answers("round 1", NONE);
+        // Just the one ahead counts, whatever its number.
+        Given three = none.then("fair 20 29 2", "fair 0 9 3", "fair 10 19 4");
+        three.answers("earns", 9).answers("round 0", 1).answers("round 1", 2).answers("round 2", 0);
+        three.then("fair 9 10 6").answers("earns", 9).answers("round 0", 1).then("fair 9 10 8").answers("earns", 10);
+    }
+
+    private static void beginsBehindTheRoad() {
+        c.sentence("and the days of the ROAD between (the day behind the end is the first day on the road, or there)");
         none.then("fair 0 5 1", "fair 5 9 1").answers("earns", 1);
         none.then("fair 0 5 1", "fair 6 9 1").answers("earns", 2);
         none.then("fair 0 5 1", "fair 6 9 1", "road 0 1 1").answers("earns", 1);
@@ -501,7 +557,7 @@ public final class EdgesOfTermsTest {
     }
 
     private static void hours() {
-        c.sentence("THE RING may run so many HOURS (1 to 1000");
+        c.sentence("LOOKS: THE RING may run so many HOURS (1 to 1000");
         for (int h : new int[] {0, -1, 1001, Integer.MIN_VALUE, Integer.MAX_VALUE}) {
             none.keeps("hours " + h, OUTSIDE);
         }
@@ -529,7 +585,7 @@ public final class EdgesOfTermsTest {
     }
 
     private static void turnTakesAll() {
-        c.sentence("each RIDER gives a TOKEN, and goes");
+        c.sentence("A TURN takes all RIDERS that sit");
         none.answers("turn", 0);
         Given all = twelve();
         all.answers("turn", 0);
@@ -538,18 +594,41 @@ public final class EdgesOfTermsTest {
         }
         all.answers("count 1", 12).answers("turn", 12);
         Given behind = all.then("turn");
-        behind.answers("count 1", 0).answers("count 5", 12).answers("count 6", 1200).answers("count 0", 12);
+        behind.answers("count 1", 0).answers("count 6", 1200).answers("count 0", 12);
         behind.answers("shake", 0).answers("rising", 0).answers("turn", 0).answers("sit 0 150", 1500 * 1500);
-        behind.then("turn").answers("count 5", 12);
         for (int p = 0; p < 12; p++) {
             behind.answers("rider " + p, 0).answers("rise " + p, STATE);
         }
     }
 
     private static void turnTakesATenth() {
-        c.sentence("one HOUR by ten (TENTHS)");
+        c.sentence("and one HOUR by ten (TENTHS)");
         none.then("turn").answers("count 4", 1).answers("look", 1);
         twelve().then("sit 0 5", "sit 6 5", "turn").answers("count 4", 1).answers("look", 1);
+    }
+
+    private static void turnTakesTokens() {
+        c.sentence("each RIDER gives a TOKEN, and goes");
+        Given all = twelve();
+        for (int riders = 1; riders <= 12; riders++) {
+            all = all.then("sit " + (riders - 1) + " " + riders);
+            all.answers("count 5", 0).answers("turn", riders);
+            all.then("turn").answers("count 5", riders).answers("count 1", 0).answers("rider " + (riders - 1), 0);
+        }
+        // Who went has no second TOKEN to give, and does not wait again; who got off before gives none.
+        all.then("turn", "turn").answers("count 5", 12).answers("count 2", 0);
+        all.then("rise 5").answers("turn", 11);
+    }
+
+    private static void childrenCome() {
+        c.sentence("THE QUEUE: children come (each WEIGHS)");
+        Given three = twelve().then("come 30", "come 150", "come 1");
+        three.answers("count 2", 3).answers("count 1", 0).answers("count 6", 1200).answers("shake", 0);
+        for (int weight : new int[] {30, 150, 1}) {
+            three.then("next").answers("rider 0", weight);
+            three = three.then("next", "turn");
+        }
+        three.answers("count 2", 0).answers("next", NONE);
     }
 
     private static void turnLetsNobodyIn() {
@@ -559,7 +638,7 @@ public final class EdgesOfTermsTest {
     }
 
     private static void bookAgrees() {
-        c.sentence("it AGREES, if this is what TURNS took since the last count");
+        c.sentence("THE BOOK tells TOKENS counted by hand; it AGREES, if this is what TURNS took since the last count");
         Given three = twelve().then("sit 0 5", "sit 6 5", "turn", "sit 0 5", "turn");
         three.answers("book 3", 0).answers("book 2", 1).answers("book 4", -1);
         three.then("book 3").answers("book 0", 0).answers("count 5", 0);
@@ -569,7 +648,8 @@ public final class EdgesOfTermsTest {
     }
 
     private static void firstAsTold() {
-        c.sentence("Refusals, of several the first as told by each call");
+        c.sentence("Refusals, of several the first as told by each call: UNKNOWN (a number names nothing),"
+            + " OUTSIDE (it is not as told), STATE (as told), FULL");
         // UNKNOWN ahead of OUTSIDE, ahead of STATE or FULL, and all of them ahead of NONE.
         Given run = none.then("horse 0 100 0", "sit 0 5").times(7, "coat 0 1").times(8, "fair 1 2 3").times(100, "come 5");
         run.keeps("horse 12 0 100", UNKNOWN).keeps("horse 0 0 0", OUTSIDE).keeps("horse 0 1 100", OUTSIDE);

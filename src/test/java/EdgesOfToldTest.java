@@ -40,7 +40,7 @@ public final class EdgesOfToldTest {
     }
 
     private static void promise30Horses() {
-        c.sentence("0 HORSES");
+        c.sentence("How many: 0 HORSES");
         none.keeps("count 0", 0).then("horse 11 1 0").keeps("count 0", 1).then("horse 11 1 0", "leave 11").keeps("count 0", 0);
         twelve().keeps("count 0", 12).then("leave 5").keeps("count 0", 11);
         twelve().then("horse 12 1 1", "horse 0 1 1").keeps("count 0", 12);
