@@ -3,9 +3,10 @@ import java.lang.reflect.Field;
 import java.lang.reflect.Method;
 import java.lang.reflect.Modifier;
 import java.util.Arrays;
+import java.util.Set;
 import java.util.TreeSet;
 
-/** The public face: just the document's members, and nothing else that can be seen from outside. */
+/** The public face: just the document's members, and nothing else that can be seen from outside; what classes hold. */
 public final class FaceTest {
     private static final String[] METHODS = {
         "int horse(int, int, int)", "int leave(int)", "int sit(int, int)", "int rise(int)", "int shake()",
@@ -16,6 +17,10 @@ public final class FaceTest {
         "int look()", "int hours(int)", "int come(int)", "int next()", "int book(int)", "int count(int)",
         "long digest()",
     };
+    private static final Set<Class<?>> STATIC_TYPES = Set.of(int.class, long.class, boolean.class, char.class, String.class,
+        int[].class, long[].class, char[].class, byte[].class);
+    // "Some twenty fields": a few more are no fault.
+    private static final int MOST_FIELDS = 24;
     private static final Check c = new Check("FaceTest");
 
     public static void main(String[] args) {
@@ -62,7 +67,6 @@ public final class FaceTest {
             } else {
                 c.holds(field + " is private", Modifier.isPrivate(modifiers));
             }
-            c.holds(field + ", if static, is final", !Modifier.isStatic(modifiers) || Modifier.isFinal(modifiers));
         }
         c.same("the constants", seen.toString(), "[int FULL, int NONE, int OUTSIDE, int STATE, int UNKNOWN]");
     }
@@ -83,9 +87,10 @@ public final class FaceTest {
             c.holds(inside + " is seen inside alone", !Modifier.isPublic(seen) && !Modifier.isProtected(seen));
             c.holds(inside + " is static", Modifier.isStatic(seen));
             privateNames(inside);
-            staticFields(inside);
+            heldFields(inside);
         }
         privateNames(GallopingRing.class);
+        heldFields(GallopingRing.class);
     }
 
     private static void privateNames(Class<?> type) {
@@ -100,10 +105,28 @@ public final class FaceTest {
         }
     }
 
-    private static void staticFields(Class<?> type) {
+    /** LANGUAGE.md, rules 3, 5 and 11. */
+    private static void heldFields(Class<?> type) {
+        int ofObjects = 0;
         for (Field field : type.getDeclaredFields()) {
-            int modifiers = field.getModifiers();
-            c.holds(field + ", if static, is final", !Modifier.isStatic(modifiers) || Modifier.isFinal(modifiers));
+            if (Modifier.isStatic(field.getModifiers())) {
+                c.holds(field + " is final", Modifier.isFinal(field.getModifiers()));
+                c.holds(field + " is of a constant's type", type.isEnum() || STATIC_TYPES.contains(field.getType()));
+            } else {
+                ofObjects++;
+                c.holds(field + " is of a type that may be held", mayBeHeld(field.getType()));
+            }
         }
+        c.holds(type + " has few fields: " + ofObjects, ofObjects <= MOST_FIELDS);
+    }
+
+    private static boolean mayBeHeld(Class<?> type) {
+        if (type.isArray()) {
+            Class<?> element = type.getComponentType();
+            boolean rowsOfNumbers = element.isArray() && element.getComponentType().isPrimitive();
+            return rowsOfNumbers || !element.isArray() && mayBeHeld(element);
+        }
+        boolean ofLibrary = Set.of("String", "StringBuilder", "Integer", "ArrayList", "List", "Object").contains(type.getSimpleName());
+        return type.isPrimitive() || ofLibrary || type.getName().startsWith("GallopingRing$");
     }
 }
